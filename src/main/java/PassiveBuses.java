@@ -623,7 +623,11 @@ public final class PassiveBuses {
         return SILENCE;
     }
 
-    /** The value is the number, channel, cause or draw, whichever the kind bears; what it lacks is 0. */
+    /**
+     * The value is the number, channel, cause or draw, whichever the kind bears; what it lacks is 0. The address of
+     * numbered frames and of REPLY, GIVE, TAKE and CHECK is always one that the exchange has given out some time,
+     * so that it is good as an index without another look.
+     */
     private static final class Frame {
         int kind;
         int address;
@@ -794,7 +798,7 @@ public final class PassiveBuses {
             }
             clock--;
             if (clock <= 0) {
-                // Without an address nothing but its REQUEST can wait in its row, so emptying it is no more than is asked.
+                // Nothing but a REQUEST can wait here without an address, so emptying the row takes out no more.
                 startOverWithNextDraw();
             }
         }

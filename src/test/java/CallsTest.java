@@ -19,6 +19,8 @@ public final class CallsTest {
         connectWithoutAlert(due);
         leastOfSeveralCalls(due);
         ringingOnTheCallersAddress(due);
+        secondOfTwoCalls(due);
+        callAfterCall(due);
         due.end();
     }
 
@@ -459,5 +461,67 @@ public final class CallsTest {
         due.is("given(0)", x.given(0), 0);
         due.is("waiting(0, false)", x.waiting(0, false), 0);
         due.states(x, 0, 3, 4);
+    }
+
+    private static void secondOfTwoCalls(Due due) {
+        due.in("what one call's terminals send leaves the other call alone");
+        PassiveBuses x = Due.rig(2, 1);
+        x.dial(0, 0, 1);
+        due.ticks(x, 3, 1, 1);
+        x.plug(1, 1, 1);
+        due.ticks(x, 2, 0);
+        x.dial(0, 1, 1);
+        due.ticks(x, 3, 1, 1);
+        due.phases(x, 2, 2);
+        due.is("reference(1, 0)", x.reference(1, 0), 2);
+        due.is("reference(1, 1)", x.reference(1, 1), 4);
+        x.answer(1, 1);
+        due.ticks(x, 2, 1);
+        due.phases(x, 2, 3);
+        due.states(x, 0, 3, 6);
+        due.states(x, 1, 4, 6);
+        due.is("channel(1, 1)", x.channel(1, 1), 1);
+        x.hang(0, 1);
+        due.ticks(x, 3);
+        due.phases(x, 2, 4);
+        due.holders(x, 0, 1, 0);
+        due.holders(x, 1, 1, 2);
+        due.ticks(x, 1);
+        due.phases(x, 2, 0);
+        due.states(x, 0, 3, 0);
+        due.states(x, 1, 4, 0);
+        due.is("cause(1, 1)", x.cause(1, 1), 6);
+        x.dial(0, 1, 1);
+        due.ticks(x, 3, 1, 1);
+        due.is("reference(1, 1)", x.reference(1, 1), 6);
+        x.hang(1, 1);
+        due.ticks(x, 2, 1);
+        due.is("cause(0, 1)", x.cause(0, 1), 7);
+        due.phases(x, 2, 0, 4);
+        due.ticks(x, 1);
+        due.phases(x, 2, 0, 0);
+    }
+
+    private static void callAfterCall(Due due) {
+        due.in("a call after one that was offered twice is offered twice");
+        PassiveBuses x = Due.rig(1, 0);
+        for (int call = 1; call <= 2; call++) {
+            x.dial(0, 0, 1);
+            due.is("run(19)", x.run(19), 4);
+            due.is("phase", x.phase(call), 1);
+            due.ticks(x, 0, 1, 1);
+            due.is("phase", x.phase(call), 0);
+        }
+
+        due.in("a call after one that was answered");
+        x = rigTalking();
+        x.hang(0, 0);
+        due.ticks(x, 3, 1, 0);
+        x.dial(0, 0, 1);
+        due.ticks(x, 3, 1, 1);
+        x.hang(0, 0);
+        due.ticks(x, 3);
+        due.phases(x, 0, 4);
+        due.holders(x, 1, 0, 0);
     }
 }

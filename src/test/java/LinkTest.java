@@ -22,6 +22,7 @@ public final class LinkTest {
         addressNotGivenOut(due);
         exchangeLosesLink(due);
         exchangeLosesLinkByAcknowledgements(due);
+        bitsBeginAnew(due);
         due.end();
     }
 
@@ -441,5 +442,38 @@ public final class LinkTest {
         due.states(x, 0, 2);
         due.phases(x, 0);
         due.addresses(x, 0, 64);
+    }
+
+    private static void bitsBeginAnew(Due due) {
+        due.in("a terminal that gets another address begins with bit 0");
+        PassiveBuses x = Due.rig(1, 0);
+        x.dial(0, 0, 1);
+        due.ticks(x, 3, 0);
+        x.hang(0, 0);
+        for (int i = 0; i < 3; i++) {
+            x.spoil(0, true, 0);
+            due.ticks(x, 1);
+        }
+        due.addresses(x, 0, DRAW + MILD);
+        due.ticks(x, 2);
+        due.addresses(x, 0, 65 + DRAW + MILD);
+        x.dial(0, 0, 9);
+        due.ticks(x, 2);
+        due.is("cause(0, 0)", x.cause(0, 0), 1);
+
+        due.in("an address that is given out again begins with bit 0 at the exchange");
+        x = Due.rig(1, 0);
+        x.dial(0, 0, 1);
+        due.ticks(x, 3, 0);
+        x.unplug(0, 0);
+        x.audit(0, 64);
+        due.is("run(8)", x.run(8), 1);
+        due.is("given(0)", x.given(0), 0);
+        x.plug(0, 0, 3);
+        due.ticks(x, 2);
+        due.addresses(x, 0, 64 + 3 * DRAW + MILD);
+        x.dial(0, 0, 9);
+        due.ticks(x, 2);
+        due.is("cause(0, 0)", x.cause(0, 0), 1);
     }
 }

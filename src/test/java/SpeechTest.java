@@ -7,6 +7,7 @@ public final class SpeechTest {
         allMouthsOfAChannel(due);
         notCrossedWhenEnding(due);
         leftOverTerminal(due);
+        twoCalls(due);
         due.end();
     }
 
@@ -158,5 +159,35 @@ public final class SpeechTest {
         due.states(x, 1, 6);
         ears(due, x, 0, 0x3C, 0x3C);
         ears(due, x, 1, 0x09);
+    }
+
+    private static void twoCalls(Due due) {
+        due.in("two calls at once");
+        PassiveBuses x = Due.rig(2, 1);
+        for (int socket = 0; socket < 2; socket++) {
+            x.say(0, socket, 1 << socket);
+            x.dial(0, socket, 1);
+            x.run(1);
+            x.answer(1, socket);
+            x.run(4);
+            x.plug(1, 1, 1);
+            x.run(2);
+        }
+        x.say(1, 0, 4);
+        x.say(1, 1, 8);
+        x.run(1);
+        due.states(x, 0, 6, 6);
+        due.states(x, 1, 6, 6);
+        ears(due, x, 0, 4, 8);
+        ears(due, x, 1, 1, 2);
+
+        due.in("a terminal plugged into the socket of one that heard something");
+        x.unplug(0, 1);
+        x.plug(0, 1, 5);
+        ears(due, x, 0, 4, -1);
+        ears(due, x, 1, 1, 2);
+        x.run(1);
+        ears(due, x, 0, 4, -1);
+        ears(due, x, 1, 1, 255);
     }
 }
