@@ -61,6 +61,50 @@ final class Due {
         }
     }
 
+    void causes(PassiveBuses x, int bus, int... want) {
+        for (int socket = 0; socket < want.length; socket++) {
+            is("cause(" + bus + ", " + socket + ")", x.cause(bus, socket), want[socket]);
+        }
+    }
+
+    void ears(PassiveBuses x, int bus, int... want) {
+        for (int socket = 0; socket < want.length; socket++) {
+            is("ear(" + bus + ", " + socket + ")", x.ear(bus, socket), want[socket]);
+        }
+    }
+
+    /** The frames that wait on a bus: those of its terminals, those of the exchange. */
+    void waiting(PassiveBuses x, int bus, int up, int down) {
+        is("waiting(" + bus + ", true)", x.waiting(bus, true), up);
+        is("waiting(" + bus + ", false)", x.waiting(bus, false), down);
+    }
+
+    /** One object must show what the other shows; takes 67 calls of each. */
+    void alike(String after, PassiveBuses got, PassiveBuses want) {
+        String gotLook = look(got);
+        String wantLook = look(want);
+        yes(after + " shows " + gotLook + ", due is " + wantLook, gotLook.equals(wantLook));
+    }
+
+    private static String look(PassiveBuses x) {
+        StringBuilder text = new StringBuilder("time " + x.time());
+        for (int bus = 0; bus < 2; bus++) {
+            text.append("; bus ").append(bus).append(" given ").append(x.given(bus));
+            text.append(" waiting ").append(x.waiting(bus, true)).append(' ').append(x.waiting(bus, false));
+            text.append(" held ").append(x.holder(bus, 0)).append(' ').append(x.holder(bus, 1));
+            for (int socket = 0; socket < 4; socket++) {
+                text.append(", ").append(x.state(bus, socket)).append(' ').append(x.address(bus, socket));
+                text.append(' ').append(x.reference(bus, socket)).append(' ').append(x.channel(bus, socket));
+                text.append(' ').append(x.cause(bus, socket)).append(' ').append(x.ear(bus, socket));
+            }
+        }
+        text.append("; phases");
+        for (int call = 1; call <= 8; call++) {
+            text.append(' ').append(x.phase(call));
+        }
+        return text.toString();
+    }
+
     /** Five ticks old, all eager, nothing waiting: socket k of a bus has the draw k and the address 64 + k. */
     static PassiveBuses rig(int onBus0, int onBus1) {
         PassiveBuses x = new PassiveBuses();
