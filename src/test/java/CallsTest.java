@@ -18,6 +18,8 @@ public final class CallsTest {
         tooLate(due);
         connectWithoutAlert(due);
         leastOfSeveralCalls(due);
+        doneOfSeveralCalls(due);
+        releaseWithoutALeg(due);
         ringingOnTheCallersAddress(due);
         secondOfTwoCalls(due);
         callAfterCall(due);
@@ -443,6 +445,76 @@ public final class CallsTest {
         due.phases(x, 0, 1);
         due.holders(x, 0, 0, 2);
         due.holders(x, 1, 0, 2);
+    }
+
+    /**
+     * Sockets 0 and 1 of bus 0 have 64 both; socket 1 is the caller of call 1, socket 0 of call 2, both with the
+     * reference 3. Socket 0 of bus 1 rings for one of them.
+     */
+    private static PassiveBuses rigOfTwoCallsOfOneReference(boolean firstRings) {
+        PassiveBuses x = rigOfTwins(0);
+        x.dial(0, 1, 9);
+        x.run(1);
+        x.hang(0, 1);
+        x.run(3);
+        x.plug(1, 0, 0);
+        x.run(2);
+        x.dial(0, 1, 1);
+        if (!firstRings) {
+            x.spoil(1, false, 0);
+        }
+        x.run(1);
+        x.dial(0, 0, 1);
+        x.run(1);
+        return x;
+    }
+
+    private static void doneOfSeveralCalls(Due due) {
+        due.in("DONE is for the leg of the least of several calls, which is gone if it is LEAVING");
+        PassiveBuses x = rigOfTwoCallsOfOneReference(true);
+        due.is("reference(0, 0)", x.reference(0, 0), 3);
+        due.is("reference(0, 1)", x.reference(0, 1), 3);
+        due.is("reference(1, 0)", x.reference(1, 0), 2);
+        due.phases(x, 2, 1);
+        x.hang(1, 0);
+        x.run(2);
+        due.states(x, 0, 0, 0);
+        due.phases(x, 4, 1);
+        due.holders(x, 0, 1, 2);
+        due.waiting(x, 0, 2, 0);
+        x.run(2);
+        due.waiting(x, 0, 0, 0);
+        due.phases(x, 0, 1);
+        due.holders(x, 0, 0, 2);
+
+        due.in("DONE does nothing if the leg of the least of several calls is not LEAVING");
+        x = rigOfTwoCallsOfOneReference(false);
+        due.is("reference(1, 0)", x.reference(1, 0), 4);
+        due.phases(x, 1, 1);
+        x.hang(1, 0);
+        x.run(3);
+        due.states(x, 0, 0, 0);
+        due.phases(x, 1, 4);
+        due.holders(x, 0, 1, 2);
+        due.waiting(x, 0, 2, 0);
+        x.run(2);
+        due.waiting(x, 0, 0, 0);
+        due.phases(x, 1, 4);
+        due.holders(x, 0, 1, 2);
+    }
+
+    private static void releaseWithoutALeg(Due due) {
+        due.in("RELEASE of an address that has no leg is answered by DONE all the same");
+        PassiveBuses x = Due.rig(1, 0);
+        x.dial(0, 0, 9);
+        x.hang(0, 0);
+        due.ticks(x, 2);
+        due.states(x, 0, 0);
+        due.waiting(x, 0, 2, 0);
+        due.ticks(x, 2);
+        due.waiting(x, 0, 1, 0);
+        due.ticks(x, 1, 0);
+        due.phases(x, 0);
     }
 
     private static void ringingOnTheCallersAddress(Due due) {

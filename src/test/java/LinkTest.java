@@ -9,6 +9,7 @@ public final class LinkTest {
         addressBeforeBitAndKind(due);
         numberedBeforeLoose(due);
         requestBeforeReply(due);
+        repliesByAddressThenDraw(due);
         sharedAddressOrder(due);
         sharedAddressKinds(due);
         spoilArguments(due);
@@ -93,6 +94,41 @@ public final class LinkTest {
         due.addresses(x, 0, 64 + MILD, 65 + 15 * DRAW + MILD);
     }
 
+    private static void repliesByAddressThenDraw(Due due) {
+        due.in("of two REPLYs that of the least address is first, whatever the draws");
+        PassiveBuses x = new PassiveBuses();
+        x.plug(0, 0, 9);
+        x.run(2);
+        x.plug(0, 1, 2);
+        x.run(2);
+        due.addresses(x, 0, 64 + 9 * DRAW, 65 + 2 * DRAW);
+        x.dial(0, 0, 7);
+        x.dial(0, 1, 7);
+        x.audit(0, 64);
+        x.audit(0, 65);
+        // When both CHECKs are heard, each has its SETUP, and then a REPLY, to send; their turns come in this order.
+        due.ticks(x, 2, 2, 2);
+        due.addresses(x, 0, 64 + 9 * DRAW + MILD, 65 + 2 * DRAW);
+        due.ticks(x, 2);
+        due.addresses(x, 0, 64 + 9 * DRAW + MILD, 65 + 2 * DRAW + MILD);
+
+        due.in("of two REPLYs with one address that of the least draw is first");
+        x = new PassiveBuses();
+        x.plug(0, 0, 9);
+        x.run(2);
+        x.audit(0, 64);
+        x.spoil(0, false, 0);
+        x.run(8);
+        x.plug(0, 1, 2);
+        x.run(2);
+        due.addresses(x, 0, 64 + 9 * DRAW, 64 + 2 * DRAW);
+        x.audit(0, 64);
+        due.ticks(x, 1, 1);
+        due.addresses(x, 0, 64 + 9 * DRAW, 64 + 2 * DRAW + MILD);
+        due.ticks(x, 1);
+        due.addresses(x, 0, 64 + 9 * DRAW + MILD, 64 + 2 * DRAW + MILD);
+    }
+
     private static void sharedAddressOrder(Due due) {
         due.in("on one address the least number first, below 0 too");
         PassiveBuses x = rigOfTwins();
@@ -101,6 +137,13 @@ public final class LinkTest {
         due.ticks(x, 2);
         due.addresses(x, 0, 64 + 9 * DRAW, 64 + 9 * DRAW + MILD);
         due.states(x, 0, 0, 0);
+
+        due.in("the least number of all is before the greatest");
+        x = rigOfTwins();
+        x.dial(0, 0, Integer.MAX_VALUE);
+        x.dial(0, 1, Integer.MIN_VALUE);
+        due.ticks(x, 2);
+        due.addresses(x, 0, 64 + 9 * DRAW, 64 + 9 * DRAW + MILD);
 
         due.in("on one address the least bit first, and another bit does nothing");
         x = rigOfTwins();
