@@ -5,6 +5,7 @@ public final class PassiveBuses {
     private static final int CHANNELS = 2;
     private static final int ADDRESSES = 4;
     private static final int LEAST_ADDRESS = 64;
+    private static final int GREATEST_ADDRESS = 67;
     private static final int NO_ADDRESS = 0;
     private static final int NO_CHANNEL = -1;
     private static final int NOTHING = -1;
@@ -158,11 +159,8 @@ public final class PassiveBuses {
     }
 
     public boolean audit(int bus, int address) {
-        if (!isBus(bus) || address < LEAST_ADDRESS || address >= LEAST_ADDRESS + ADDRESSES) {
-            return false;
-        }
-        Line line = buses[bus].lines[address - LEAST_ADDRESS];
-        if (!line.given || line.audited) {
+        Line line = isBus(bus) ? buses[bus].lineOf(address) : null;
+        if (line == null || !line.given || line.audited) {
             return false;
         }
         line.audited = true;
@@ -310,8 +308,8 @@ public final class PassiveBuses {
             bus.row.removeFirst();
             return 1;
         }
-        Line line = bus.lines[frame.address - LEAST_ADDRESS];
-        boolean received = spoiling != SPOIL_FRAME && bus.sendToAddress(frame, line.sendBit);
+        Line line = bus.lineOf(frame.address);
+        boolean received = line != null && spoiling != SPOIL_FRAME && bus.sendToAddress(frame, line.sendBit);
         if (received && spoiling != SPOIL_ACKNOWLEDGEMENT) {
             line.sendBit = 1 - line.sendBit;
             bus.row.removeFirst();
@@ -326,7 +324,10 @@ public final class PassiveBuses {
             buses[bus].giveAddress(frame.value);
             return;
         }
-        Line line = buses[bus].lines[frame.address - LEAST_ADDRESS];
+        Line line = buses[bus].lineOf(frame.address);
+        if (line == null) {
+            return;
+        }
         if (frame.kind == REPLY) {
             line.replies++;
             return;
@@ -386,11 +387,10 @@ public final class PassiveBuses {
             refuse(bus, frame, CAUSE_TOO_LATE);
             return;
         }
-        int leg = frame.address - LEAST_ADDRESS;
-        if (call.legs[leg] != LEG_NONE) {
+        if (call.legOf(frame.address) != LEG_NONE) {
             return;
         }
-        call.legs[leg] = LEG_RINGING;
+        call.setLeg(frame.address, LEG_RINGING);
         if (call.phase == OFFERED) {
             call.phase = ALERTING;
             call.clock = ALERT_CLOCK;
@@ -406,15 +406,15 @@ public final class PassiveBuses {
             }
             return;
         }
-        call.winner = frame.address - LEAST_ADDRESS;
-        call.legs[call.winner] = LEG_WINNER;
+        call.setLeg(frame.address, LEG_WINNER);
+        call.winner = frame.address;
         call.phase = TALKING;
         buses[bus].row.put(GRANT, frame.address, frame.reference, call.calledChannel);
         buses[call.callerBus].row.put(CONNECT, call.callerAddress, call.callerReference, 0);
-        for (int i = 0; i < ADDRESSES; i++) {
-            if (call.legs[i] == LEG_RINGING) {
-                call.legs[i] = LEG_LEAVING;
-                buses[bus].row.put(RELEASE, LEAST_ADDRESS + i, frame.reference, CAUSE_TOO_LATE);
+        for (int address = LEAST_ADDRESS; address <= GREATEST_ADDRESS; address++) {
+            if (call.legOf(address) == LEG_RINGING) {
+                call.setLeg(address, LEG_LEAVING);
+                buses[bus].row.put(RELEASE, address, frame.reference, CAUSE_TOO_LATE);
             }
         }
     }
@@ -446,7 +446,6 @@ public final class PassiveBuses {
     /** On RELEASE the sender's leg is gone; on DONE only if the exchange had released it. */
     private void leaveLeg(int bus, Frame frame) {
         boolean always = frame.kind == RELEASE;
-        int leg = frame.address - LEAST_ADDRESS;
         for (int i = 0; i < callCount; i++) {
             Call call = calls[i];
             if (call.isCaller(bus, frame)) {
@@ -456,8 +455,8 @@ public final class PassiveBuses {
                 break;
             }
             if (call.isCalled(bus, frame)) {
-                if (always || call.legs[leg] == LEG_LEAVING) {
-                    calledGone(call, leg);
+                if (always || call.legOf(frame.address) == LEG_LEAVING) {
+                    calledGone(call, frame.address);
                 }
                 break;
             }
@@ -470,9 +469,9 @@ public final class PassiveBuses {
         endCall(call, CAUSE_LEFT);
     }
 
-    private void calledGone(Call call, int leg) {
-        int was = call.legs[leg];
-        call.legs[leg] = LEG_NONE;
+    private void calledGone(Call call, int address) {
+        int was = call.legOf(address);
+        call.setLeg(address, LEG_NONE);
         if (was == LEG_WINNER) {
             endCall(call, CAUSE_LEFT);
         } else if (was == LEG_RINGING && call.phase == ALERTING && !call.isRinging()) {
@@ -489,10 +488,11 @@ public final class PassiveBuses {
             call.callerLeg = LEG_LEAVING;
             buses[call.callerBus].row.put(RELEASE, call.callerAddress, call.callerReference, cause);
         }
-        for (int i = 0; i < ADDRESSES; i++) {
-            if (call.legs[i] == LEG_RINGING || call.legs[i] == LEG_WINNER) {
-                call.legs[i] = LEG_LEAVING;
-                buses[call.calledBus].row.put(RELEASE, LEAST_ADDRESS + i, call.calledReference(), cause);
+        for (int address = LEAST_ADDRESS; address <= GREATEST_ADDRESS; address++) {
+            int leg = call.legOf(address);
+            if (leg == LEG_RINGING || leg == LEG_WINNER) {
+                call.setLeg(address, LEG_LEAVING);
+                buses[call.calledBus].row.put(RELEASE, address, call.calledReference(), cause);
             }
         }
     }
@@ -511,16 +511,19 @@ public final class PassiveBuses {
     }
 
     private void dropAddress(int bus, int address) {
-        int leg = address - LEAST_ADDRESS;
-        buses[bus].lines[leg].given = false;
-        buses[bus].lines[leg].audited = false;
+        Line line = buses[bus].lineOf(address);
+        if (line == null) {
+            return;
+        }
+        line.given = false;
+        line.audited = false;
         for (int i = 0; i < callCount; i++) {
             Call call = calls[i];
             if (call.callerLeg != LEG_NONE && call.callerBus == bus && call.callerAddress == address) {
                 callerGone(call);
             }
-            if (call.calledBus == bus && call.legs[leg] != LEG_NONE) {
-                calledGone(call, leg);
+            if (call.calledBus == bus && call.legOf(address) != LEG_NONE) {
+                calledGone(call, address);
             }
         }
         forgetFinishedCalls();
@@ -553,8 +556,8 @@ public final class PassiveBuses {
             }
         }
         for (int bus = 0; bus < BUSES; bus++) {
-            for (int i = 0; i < ADDRESSES; i++) {
-                runAuditClock(bus, LEAST_ADDRESS + i);
+            for (int address = LEAST_ADDRESS; address <= GREATEST_ADDRESS; address++) {
+                runAuditClock(bus, address);
             }
         }
         for (int i = 0; i < callCount; i++) {
@@ -563,8 +566,8 @@ public final class PassiveBuses {
     }
 
     private void runAuditClock(int bus, int address) {
-        Line line = buses[bus].lines[address - LEAST_ADDRESS];
-        if (!line.audited) {
+        Line line = buses[bus].lineOf(address);
+        if (line == null || !line.audited) {
             return;
         }
         line.auditClock--;
@@ -623,11 +626,7 @@ public final class PassiveBuses {
         return SILENCE;
     }
 
-    /**
-     * The value is the number, channel, cause or draw, whichever the kind bears; what it lacks is 0. The address of
-     * numbered frames and of REPLY, GIVE, TAKE and CHECK is always one that the exchange has given out some time,
-     * so that it is good as an index without another look.
-     */
+    /** The value is the number, channel, cause or draw, whichever the kind bears; what it lacks is 0. */
     private static final class Frame {
         int kind;
         int address;
@@ -918,6 +917,12 @@ public final class PassiveBuses {
             }
         }
 
+        /** What the exchange knows of an address, or null when there is no such address. */
+        Line lineOf(int address) {
+            int index = address - LEAST_ADDRESS;
+            return index >= 0 && index < ADDRESSES ? lines[index] : null;
+        }
+
         int countTerminalFrames() {
             int count = 0;
             for (Terminal terminal : terminals) {
@@ -962,7 +967,11 @@ public final class PassiveBuses {
         }
 
         boolean exchangeListens(Frame frame) {
-            return !frame.isNumbered() || lines[frame.address - LEAST_ADDRESS].given;
+            if (!frame.isNumbered()) {
+                return true;
+            }
+            Line line = lineOf(frame.address);
+            return line != null && line.given;
         }
 
         void sendToAll(Frame frame) {
@@ -1022,7 +1031,8 @@ public final class PassiveBuses {
         int callerLeg = LEG_NONE;
         int calledBus = 0;
         int calledChannel = NO_CHANNEL;
-        int winner = NOTHING;
+        /** The address that became WINNER, whatever its leg is now. */
+        int winner = NO_ADDRESS;
 
         void begin(int itsNumber, int itsCalledBus, int itsCalledChannel) {
             number = itsNumber;
@@ -1031,7 +1041,7 @@ public final class PassiveBuses {
             phase = OFFERED;
             clock = OFFER_CLOCK;
             offeredTwice = false;
-            winner = NOTHING;
+            winner = NO_ADDRESS;
             for (int i = 0; i < ADDRESSES; i++) {
                 legs[i] = LEG_NONE;
             }
@@ -1051,6 +1061,19 @@ public final class PassiveBuses {
 
         boolean isUnanswered() {
             return phase == OFFERED || phase == ALERTING;
+        }
+
+        /** No leg where there is no such address. */
+        int legOf(int address) {
+            int index = address - LEAST_ADDRESS;
+            return index >= 0 && index < ADDRESSES ? legs[index] : LEG_NONE;
+        }
+
+        void setLeg(int address, int leg) {
+            int index = address - LEAST_ADDRESS;
+            if (index >= 0 && index < ADDRESSES) {
+                legs[index] = leg;
+            }
         }
 
         boolean isRinging() {
@@ -1081,16 +1104,14 @@ public final class PassiveBuses {
 
         boolean isCalled(int bus, Frame frame) {
             return calledBus == bus && calledReference() == frame.reference
-                && legs[frame.address - LEAST_ADDRESS] != LEG_NONE;
+                && legOf(frame.address) != LEG_NONE;
         }
 
         boolean holds(int bus, int channel) {
-            boolean forCaller = callerLeg != LEG_NONE && callerBus == bus && callerChannel == channel;
-            return forCaller || (calledBus == bus && calledChannel == channel && holdsCalledChannel());
-        }
-
-        boolean holdsCalledChannel() {
-            return isUnanswered() || (winner >= 0 && legs[winner] != LEG_NONE);
+            if (callerLeg != LEG_NONE && callerBus == bus && callerChannel == channel) {
+                return true;
+            }
+            return calledBus == bus && calledChannel == channel && (isUnanswered() || legOf(winner) != LEG_NONE);
         }
     }
 }
